@@ -20,10 +20,10 @@ public final class RandomRunsTest {
     }
 
     public static void main(String[] args) {
-        for (long seed = 0; seed < 1500; seed++) {
+        for (long seed = 0; seed < 300; seed++) {
             new RandomRunsTest(seed).anyCalls();
         }
-        for (long seed = 10_000; seed < 13_000; seed++) {
+        for (long seed = 10_000; seed < 10_700; seed++) {
             new RandomRunsTest(seed).fittingGraph();
         }
         CHECKS.end();
