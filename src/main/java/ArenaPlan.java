@@ -196,7 +196,6 @@ public final class ArenaPlan {
 
     private void forgetPlan() {
         planned = false;
-        ran = false;
     }
 
     private void needPlan() {

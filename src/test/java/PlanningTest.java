@@ -221,6 +221,9 @@ public final class PlanningTest {
         allAbout("labels by way 0", x, 4, 1, 2, 2, 3, 4, 4, 4, 4, 5, 5, 6, 6);
         x.plan(1);
         allAbout("labels by way 1", x, 4, 1, 2, 2, 3, 4, 4, 4, 4, 5, 5, 6, 6);
+        ArenaPlan greaterFirst = made(given(1), of(ADD, 0, 0), of(ADD, 1, 1), of(JOIN, 2, 0));
+        greaterFirst.plan(0);
+        allAbout("the greater label first", greaterFirst, 4, 1, 3, 4, 4);
         ArenaPlan ones = made(given(1), of(TOTAL, 0), spread(2, 1), cut(0, 1, 2), of(JOIN, 1, 3));
         ones.plan(0);
         allAbout("labels of one input", ones, 4, 1, 2, 2, 2, 3);
