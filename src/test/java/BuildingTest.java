@@ -8,6 +8,7 @@ public final class BuildingTest extends GraphChecks {
         newObject();
         objectsOfTheirOwn();
         makeAnswersNumbers();
+        twelveAreUsed();
         makeTakesTwelve();
         makeDoesNotKeep();
         makeDoesNotWire();
@@ -80,6 +81,28 @@ public final class BuildingTest extends GraphChecks {
             x.make(GIVEN, 1, 0);
         }
         return x;
+    }
+
+    private static void twelveAreUsed() {
+        CHECKS.sentence("NODES are 0, 1, .. in the order in which they are made, at most 12.");
+        ArenaPlan x = new ArenaPlan();
+        for (int node = 0; node < MOST_NODES - 1; node++) {
+            int number = node;
+            CHECKS.answers("make one of eleven", number, () -> x.make(NEGATE, 0, 0));
+        }
+        CHECKS.answers("no twelfth as a source", false, () -> x.wire(0, 0, 11));
+        CHECKS.answers("make the twelfth", 11, () -> x.make(GIVEN, 1, 0));
+        for (int node = 0; node < MOST_NODES - 1; node++) {
+            int wired = node;
+            CHECKS.answers("the twelfth as a source", true, () -> x.wire(wired, 0, 11));
+        }
+        CHECKS.answers("give the twelfth", true, () -> x.give(11, 0, 6));
+        CHECKS.answers("keep the eleventh", true, () -> x.keep(10, true));
+        CHECKS.answers("keep the twelfth", true, () -> x.keep(11, true));
+        CHECKS.answers("plan", 2, () -> x.plan(0));
+        CHECKS.answers("run", 12, () -> x.run());
+        CHECKS.answers("result of the eleventh", -6, () -> x.result(10, 0));
+        CHECKS.answers("result of the twelfth", 6, () -> x.result(11, 0));
     }
 
     private static void makeTakesTwelve() {

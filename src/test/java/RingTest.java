@@ -6,6 +6,7 @@ public final class RingTest extends GraphChecks {
         inARing();
         beginsWithTheLeast();
         goesTheFewestSteps();
+        goesTheFewestOfManySteps();
         takesTheFirstInput();
         endsAtTheBeginning();
         hasNoOtherNodes();
@@ -60,6 +61,30 @@ public final class RingTest extends GraphChecks {
         hasRing("itself, not the way round", graph(from(1, 0), from(0)), 0);
         hasRing("straight back", graph(from(1), from(2, 0), from(0)), 0, 1);
         hasRing("fewer at the beginning", graph(from(1, 2), from(2), from(0)), 0, 2);
+    }
+
+    /** Nodes 2 to 11 one after the other and then 0: there are ten steps from 2 to 0. */
+    private static ArenaPlan longWay(int[] beginning, int[] one) {
+        int[][] sources = new int[MOST_NODES][];
+        sources[0] = beginning;
+        sources[1] = one;
+        for (int node = 2; node < MOST_NODES; node++) {
+            sources[node] = from((node + 1) % MOST_NODES);
+        }
+        return graph(sources);
+    }
+
+    private static void goesTheFewestOfManySteps() {
+        CHECKS.sentence("in the fewest steps");
+        int[] ring = {0, 2, 3, 4, 5, 6, 7, 8, 9, 10, 11};
+        hasRing("ten, not eleven", longWay(from(1, 2), from(2)), ring);
+        hasRing("ten, not eleven, by the first input", longWay(from(2, 1), from(2)), ring);
+        hasRing("ten, not nowhere", longWay(from(1, 2), from()), ring);
+        hasRing("ten, not nowhere, by the first input", longWay(from(2, 1), from()), ring);
+        hasRing("ten, not round and round", longWay(from(1, 2), from(1)), ring);
+        hasRing("ten by both, the first first", longWay(from(2, 1), from(3)), ring);
+        hasRing("ten by both, the other first", longWay(from(1, 2), from(3)), 0, 1, 3, 4, 5, 6, 7, 8, 9, 10, 11);
+        hasRing("nine by one", longWay(from(2, 1), from(4)), 0, 1, 4, 5, 6, 7, 8, 9, 10, 11);
     }
 
     private static void takesTheFirstInput() {
