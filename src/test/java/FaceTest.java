@@ -6,7 +6,7 @@ import java.util.Arrays;
 import java.util.Set;
 import java.util.TreeSet;
 
-/** The public face as the document has it, and what LANGUAGE.md's rules 1 and 5 say of the rest. */
+/** The public face as the document has it, and what LANGUAGE.md's rules 1, 2, 5 and 11 say of the rest. */
 public final class FaceTest {
     private static final Checks CHECKS = new Checks();
 
